@@ -13,7 +13,8 @@ public final class MosaicOfSights {
     private static final int MOST_PEOPLE = 5, MOST = 99, LAST_DAY = 999;
     private static final int MOST_DAYS = 40, MOST_DAYS_TO_END = 60, MOST_DAYS_TO_WANT = 20, DAYS_OF_CHANCE = 12;
     private static final int MOST_TEXTS = 6, TAPE_SIZE = 160, PARTS = 3;
-    private static final int SHEETS = 4, SORTS = 3, SHEET_SIZE = 40, MOST_TOLD = 20, MOST_SEEDS = 20;
+    private static final int SHEETS = 4, SHEET_SIZE = 40, MOST_TOLD = 20, MOST_SEEDS = 20;
+    private static final int BYTES = 0, SHORTS = 1, SORTS = 3;
     private static final long WHOLE = -1L;
 
     private static final int LOOKER = 0, WIFE = 1, BOY = 2, DEACON = 3, MONK = 4, RAG = 5;
@@ -302,7 +303,7 @@ public final class MosaicOfSights {
             return BAD;
         }
         Sheet row = sheets[sheet];
-        row.become(0, n);
+        row.become(BYTES, n);
         think();
         for (int i = 0; i < n; i++) {
             rules.passDay(thought, NONE);
@@ -568,12 +569,15 @@ public final class MosaicOfSights {
             b = rest;
         }
         if (a == 0) {
-            return NO;
+            return NO; // never so, as below isn't 0: the divisor is looked at all the same
         }
         return part == 0 ? above / a : below / a;
     }
 
-    /** All that AN IMAGE keeps: the picture, THE BOX, PEOPLE, DAY and which TEXT is THE RULE. */
+    /**
+     * All that AN IMAGE keeps: the picture, THE BOX, PEOPLE, DAY and which TEXT is THE RULE. A thought is a second
+     * one of these, used again and again, so that calls make no objects.
+     */
     private static final class World {
         /** The CELLS that WANT each COLOUR, as bits. */
         final long[] wanting = new long[COLOURS];
@@ -1214,9 +1218,9 @@ public final class MosaicOfSights {
         }
 
         void put(int i, int v) {
-            if (sort == 0) {
+            if (sort == BYTES) {
                 items[i] = (byte) v;
-            } else if (sort == 1) {
+            } else if (sort == SHORTS) {
                 items[i] = (short) v;
             } else {
                 items[i] = v;

@@ -273,6 +273,10 @@ public final class PromisesTest {
             due("deacon, even day", x.told(3, 10), 3);
             x.set(0, 0, 7);
             due("deacon, odd day", x.told(3, 10), sees[t].equals("day") ? 3 : colours[t]);
+            x.set(0, 0, 8);
+            due("deacon, day 8", x.told(3, 10), 3);
+            x.set(0, 0, 9);
+            due("deacon, day 9", x.told(3, 10), sees[t].equals("day") ? 1 : colours[t]);
             due("monk, first cell wants 0", x.told(4, 10), 0);
             fillCells(x, 0, 2);
             due("monk, first empty wants 2", x.told(4, 10), 2);
@@ -312,6 +316,10 @@ public final class PromisesTest {
             due("rag " + turns[t], x.told(4, 11), rag[t]);
             MosaicOfSights y = withOne("needs 2;sees 0;turns " + turns[t] + ";", MONK, 7, 2);
             due("monk " + turns[t], y.told(0, 11), boy[t]);
+            y.set(5, 0, 1);
+            due("monk at 1 " + turns[t], y.told(0, 11), (boy[t] + 3) % 4);
+            y.person(BOY, 7, 1);
+            due("boy at 1 " + turns[t], y.told(1, 11), (boy[t] + 3) % 4);
         }
     }
 
@@ -404,6 +412,20 @@ public final class PromisesTest {
         fault("needs Day;sees 2;turns 3;", 6);
         fault("needs dAy;sees 2;turns 3;", 6);
         fault("needs dayA;sees 2;turns 3;", 9);
+        fault("needs dayz;sees 2;turns 3;", 6);
+        fault("needs zday;sees 2;turns 3;", 6);
+        fault("needs day`;sees 2;turns 3;", 9);
+        fault("needs day{;sees 2;turns 3;", 9);
+        fault("needs 1/;sees 2;turns 3;", 7);
+        fault("needs 1:;sees 2;turns 3;", 7);
+        fault("needs bay;sees 2;turns 3;", 6);
+        fault("xeeds 1;sees 2;turns 3;", 0);
+        fault("a".repeat(160), 0);
+        fault("1".repeat(160), 0);
+        fault(" ".repeat(160), 160);
+        fault("needs 1;sees 2;turns 3;" + " ".repeat(136) + "a", 159);
+        fault("needs 1;sees 2;" + " ".repeat(138) + "turns 3", 160);
+        fault("needs 1;sees 2;" + " ".repeat(137) + "turns 3;", NONE);
         fault("needs x;sees 2;turns 3;", 6);
         fault("needs needs;sees 2;turns 3;", 6);
         fault("needs sees 2;", 6);
@@ -507,6 +529,8 @@ public final class PromisesTest {
         value("5+(not 1<2)", 5);
         value("5+(not 2=0)", 6);
         value("5+(7 and 8)", 6);
+        value("5+(-1 and -1)", 6);
+        value("5+(-1 or 0)", 6);
         value("5+(7 or 8)", 6);
         value("5+(-7 and 0)", 5);
         value("5+(0 or 0)", 5);
@@ -853,6 +877,9 @@ public final class PromisesTest {
         x.person(LOOKER, 0, 0);
         due("none", x.share(0), NO);
         due("none", x.share(1), NO);
+        x.set(7, 0, 1);
+        due("0 of 1", x.share(0), 0);
+        due("0 of 1", x.share(1), 1);
         x.set(7, 0, 6);
         due("0 of 6", x.share(0), 0);
         due("0 of 6", x.share(1), 1);
@@ -991,6 +1018,7 @@ public final class PromisesTest {
         x.sheet(2, 2, 5);
         due("bytes now", x.film(2, 2), 2);
         due("like sorts", x.copy(1, 0, 2, 0, 2), 2);
+        due("bytes", x.exarchate(2, 0, 0, 0), 0);
         due("ints no more", x.exarchate(2, 2, 0, 0), OTHER_SORT);
         due("0", x.film(2, 0), 0);
         due("none", x.cell(2, 0, 0), OUTSIDE);
@@ -1054,7 +1082,11 @@ public final class PromisesTest {
                 due("lowest", common, 1);
             }
         }
-        due("12 days", x.chance(3, 20, 53, 0), 0);
+        // A MONK who needs 1 day gives what is wanted, each day.
+        MosaicOfSights y = withOne("needs 1;sees 0;turns 0;", MONK, 0, 0);
+        y.set(3, 0, 1);
+        due("12 days fill 12", y.chance(3, 20, 12, 0), 1);
+        due("12 days fill no 13", y.chance(3, 20, 13, 0), 0);
         due("k 64", x.chance(3, 20, 64, 0), 0);
         due("m 0", x.chance(0, 0, 0, 0), NO);
         due("m 21", x.chance(0, 21, 0, 0), NO);
