@@ -1071,12 +1071,15 @@ public final class PromisesTest {
         int[] seeds = {0, 77, -5, HIGH - 3};
         for (int seed : seeds) {
             for (int m = 1; m <= 20; m++) {
+                MosaicOfSights z = new MosaicOfSights();
+                z.person(RAG, 1, 0);
+                fillCells(z, 0, 40);
                 int good = 0;
                 for (int i = 0; i < m; i++) {
-                    good += x.drawn(seed + i, 12) >= 47 ? 1 : 0;
+                    good += z.drawn(seed + i, 12) >= 47 ? 1 : 0;
                 }
-                long above = x.chance(seed, m, 47, 0);
-                long below = x.chance(seed, m, 47, 1);
+                long above = z.chance(seed, m, 47, 0);
+                long below = z.chance(seed, m, 47, 1);
                 due("chance " + seed + " " + m, above * m, good * below);
                 long common = java.math.BigInteger.valueOf(above).gcd(java.math.BigInteger.valueOf(below)).longValue();
                 due("lowest", common, 1);
