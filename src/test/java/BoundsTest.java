@@ -54,6 +54,7 @@ public final class BoundsTest {
         givesAndTurnsBounds();
         monkEdges();
         wrappingSums();
+        namesAtTheirBounds();
     }
 
     private static void pictureAndPeople() {
@@ -80,8 +81,11 @@ public final class BoundsTest {
         gaveIsBounded();
         boxIsBounded();
         asManyAsNeeded();
+        toldInTheMiddleOfADay();
         lastDay();
         inThoughtBeyondLastDay();
+        searchesBeyondLastDay();
+        daysGoOnWhenWhole();
         runBounds();
         laterBounds();
         endsBounds();
@@ -89,8 +93,10 @@ public final class BoundsTest {
 
     private static void best() {
         atWhatBounds();
+        atWhatLookedStays();
         wantBounds();
         wantOnlyIfMore();
+        wantByCellsThenColours();
         idleBounds();
         gapEdges();
         patchEdges();
@@ -102,6 +108,7 @@ public final class BoundsTest {
         tellsTwenty();
         tellsEdges();
         tellsOfLooked();
+        tellsLookedStays();
         filmBounds();
         drawnBounds();
         drawnWraps();
@@ -598,6 +605,44 @@ public final class BoundsTest {
         holds("1=2", false);
     }
 
+    /** A NAME is just so much: as a RAG's turns, less its NUMBER, tell it. */
+    private static void names(MosaicOfSights x, int text, boolean is) {
+        x.force(text);
+        due("text " + text, x.told(0, 11), is ? 2 : 1);
+    }
+
+    private static void namesAtTheirBounds() {
+        says("looked: LOOKED; colour: what it looks AT; day: DAY; filled: how many CELLS are; box: .. together");
+        MosaicOfSights x = new MosaicOfSights();
+        x.person(RAG, 0, 0);
+        write(x, "needs 1;sees 0;turns 1+(looked=0 and colour=0 and number=0 and day=0);");
+        write(x, "needs 1;sees 0;turns 1+(filled=0 and box=0);");
+        write(x, "needs 1;sees 0;turns 1+(looked=99 and colour=3 and day=999);");
+        write(x, "needs 1;sees 0;turns 1+(filled=64 and box=396);");
+        names(x, 1, true);
+        names(x, 2, true);
+        names(x, 3, false);
+        names(x, 4, false);
+        x.set(0, 0, 999);
+        x.set(5, 0, 3);
+        x.set(6, 0, 99);
+        fillCells(x, 0, 64);
+        for (int colour = 0; colour < 4; colour++) {
+            x.set(3, colour, 99);
+        }
+        names(x, 1, false);
+        names(x, 2, false);
+        names(x, 3, true);
+        names(x, 4, true);
+        x.set(2, 63, 0);
+        names(x, 4, false);
+        says("number: NUMBER");
+        due("0", turns("number=0", LOOKER, 0, 0), 1);
+        due("0 of 1", turns("number=0", LOOKER, 1, 0), 0);
+        due("9", turns("number=9", LOOKER, 9, 0), 1);
+        due("9 of 8", turns("number=9", LOOKER, 8, 0), 0);
+    }
+
     // ---- promises 2 to 5
 
     private static void setRefuses() {
@@ -945,6 +990,37 @@ public final class BoundsTest {
         due("of each", y.told(4, 7), 1);
     }
 
+    private static void toldInTheMiddleOfADay() {
+        says("LOOKED is 1 more ..; is it as many as it NEEDS, or more, then");
+        MosaicOfSights x = withOne("needs 9*(looked=0);sees 0;turns 0;", LOOKER, 0, 0);
+        due("needs 9 by 0", x.told(0, 9), 9);
+        due("needs 1 by 1", x.day(), 1);
+        MosaicOfSights y = withOne("needs 9*(looked=1);sees 0;turns 0;", LOOKER, 0, 0);
+        due("needs 1 by 0", y.told(0, 9), 1);
+        due("needs 9 by 1", y.day(), 0);
+        due("needs 1 by 2", y.day(), 1);
+        says("(GIVES, TURNS told ahead of what follows)");
+        MosaicOfSights z = withOne("needs 1;sees looked+filled+box;turns looked*2+filled+box;", WIFE, 0, 3);
+        due("gives by 1 that it looked", z.day(), 1);
+        due("cell 1", z.told(1, 2), 1);
+        MosaicOfSights w = withOne("needs 1;sees 0;turns looked*2+filled+box;", LOOKER, 0, 1);
+        due("gives 1", w.later(1), 2);
+        due("turns by 1 that it looked, none that are filled", w.run(0, 1, 2), 2);
+        fillColour(w, 1);
+        due("boxed", w.run(0, 1, 1), 1);
+        due("turns by 16 that are filled, none in the box", w.run(0, 1, 2), 2);
+        says("of PEOPLE by numbers (told as all is then)");
+        MosaicOfSights v = ruled("needs 1;sees 0;turns filled+2*box;");
+        for (int one = 0; one < 3; one++) {
+            v.person(LOOKER, 0, 0);
+        }
+        fillCells(v, 1, 64);
+        v.day();
+        due("turns by 63", v.told(0, 5), 3);
+        due("turns by 64", v.told(1, 5), 0);
+        due("turns by 64, 1 in the box", v.told(2, 5), 2);
+    }
+
     private static void lastDay() {
         says("A DAY, truly: how many CELLS are FILLED then. STATE: DAY is 999.");
         MosaicOfSights x = rag(1);
@@ -986,6 +1062,64 @@ public final class BoundsTest {
         keepsAll("run(0, 40, 0)", z -> z.run(0, 40, 0));
         keepsAll("later(40)", z -> z.later(40));
         keepsAll("ends()", z -> z.ends());
+    }
+
+    /** DAY 999, CELLS 0, 1, 2 are empty: they are filled in 3 DAYS if, and only if, DAY passes 999 in thought. */
+    private static MosaicOfSights threeLeftOnLastDay() {
+        MosaicOfSights x = withOne("needs 1;sees 0;turns 1+(999<day);", LOOKER, 0, 0);
+        x.set(0, 0, 999);
+        fillCells(x, 3, 64);
+        return x;
+    }
+
+    private static void searchesBeyondLastDay() {
+        says("(there DAY may pass 999): ends, want, idle, atWhat, tells, chance");
+        MosaicOfSights x = threeLeftOnLastDay();
+        due("ends", x.ends(), 3);
+        due("want: none is better", x.want(3, 0), NONE);
+        due("want: as so", x.want(3, 1), 64);
+        x.set(1, 2, 3);
+        due("want: cell 2, the colour of day 1001", x.want(3, 0), 22);
+        due("want: 1 more", x.want(3, 1), 64);
+        x.set(1, 2, 2);
+        due("at 0", x.atWhat(0, 3, 0), 0);
+        due("64", x.atWhat(0, 3, 1), 64);
+        row(x, 0, 0, 62, 63, 64);
+        due("tells", x.tells(0, 0, 0), NONE);
+        due("by text 1", x.tells(0, 0, 6), 2);
+        x.person(RAG, 2, 0);
+        due("the other is idle", x.idle(3), 1);
+        due("day stays", x.count(2), 999);
+        MosaicOfSights y = withOne("needs 1;sees 0;turns 0;", LOOKER, 0, 0);
+        write(y, "needs 1+98*(day<1000);sees 0;turns colour;");
+        y.force(2);
+        y.set(0, 0, 999);
+        fillCells(y, 0, 64);
+        y.set(2, 0, 0);
+        int good = 0;
+        for (int seed = 0; seed < 20; seed++) {
+            good += drawnWants(seed)[0] == 0 ? 1 : 0;
+        }
+        due("some, not all", good > 0 && good < 20 ? 1 : 0, 1);
+        due("chance", y.chance(0, 20, 64, 0) * 20, good * y.chance(0, 20, 64, 1));
+    }
+
+    private static void daysGoOnWhenWhole() {
+        says("A DAY, when it is WHOLE: squares go into THE BOX, all look on");
+        MosaicOfSights x = withOne("needs 2;sees 0;turns colour+1;", LOOKER, 0, 0);
+        fillCells(x, 0, 64);
+        int[] box = {0, 0, 1, 1, 2};
+        for (int n = 0; n < box.length; n++) {
+            due("filled", x.run(0, n, 0), 64);
+            due("box", x.run(0, n, 1), box[n]);
+            due("looks at", x.run(0, n, 2), box[n]);
+            due("looked", x.run(0, n, 3), n % 2);
+            due("gave", x.run(0, n, 4), box[n]);
+            due("later", x.later(n), -1);
+        }
+        due("20 in 40 days", x.run(0, 40, 1), 20);
+        due("day", x.day(), 64);
+        due("looked", x.told(0, 6), 1);
     }
 
     private static void runBounds() {
@@ -1080,6 +1214,16 @@ public final class BoundsTest {
         due("the last colour", x.atWhat(0, 1, 0), 3);
     }
 
+    private static void atWhatLookedStays() {
+        says("the COLOUR such that, did it look AT that now (LOOKED stays)");
+        MosaicOfSights x = withOne("needs 9;sees 0;turns 0;", LOOKER, 0, 0);
+        x.set(6, 0, 7);
+        due("1 day", x.atWhat(0, 1, 1), 0);
+        due("2 days", x.atWhat(0, 2, 1), 1);
+        due("10 days", x.atWhat(0, 10, 1), 1);
+        due("11 days", x.atWhat(0, 11, 1), 2);
+    }
+
     private static void wantBounds() {
         says("WANT (n 1 .. 20) .. WANT (what 0; NONE), how many (1; as so). BAD.");
         within("n", 1, 20, BAD, (x, v) -> x.want(v, 1));
@@ -1127,6 +1271,25 @@ public final class BoundsTest {
         due("cell 0, colour 0", y.want(1, 0), 0);
         y.set(2, 0, 1);
         due("whole", y.want(1, 0), NONE);
+    }
+
+    private static void wantByCellsThenColours() {
+        says("of like ones the first by CELLS, then COLOURS");
+        // The MONK fills the first empty CELL whatever it WANTS, so that just RAG 3, ahead of it, makes CELL 0 worth a
+        // wish, while RAG 0, behind it, makes a lower COLOUR of CELL 1 worth as much.
+        MosaicOfSights x = rag(3);
+        x.person(MONK, 0, 0);
+        x.person(RAG, 0, 0);
+        x.set(6, 1, 1);
+        fillCells(x, 3, 64);
+        x.set(1, 0, 1);
+        x.set(1, 1, 2);
+        x.set(1, 2, 2);
+        due("as so", x.run(0, 1, 0), 62);
+        due("1 more", x.want(1, 1), 63);
+        due("cell 0 by colour 3, ahead of cell 1 by colour 0", x.want(1, 0), 3);
+        x.set(1, 1, 0);
+        due("cell 1 by colour 0 would be as many", x.run(0, 1, 0), 63);
     }
 
     private static void idleBounds() {
@@ -1341,6 +1504,19 @@ public final class BoundsTest {
         due("a boy at 3 gives 0", z.tells(0, 0, 3), 8);
         row(z, 0, 0, 63);
         due("the others don't", z.tells(0, 0, 3), 7);
+    }
+
+    private static void tellsLookedStays() {
+        says("of one of PEOPLE KINDS, NUMBERS, COLOURS it could look AT (LOOKED stays)");
+        MosaicOfSights x = withOne("needs 9;sees 0;turns 0;", LOOKER, 0, 0);
+        x.set(6, 0, 7);
+        row(x, 0, 0, 0, 1);
+        due("a looker, and a boy of number 0", x.tells(0, 0, 1), 5);
+        due("all numbers", x.tells(0, 0, 2), 1023);
+        due("all colours", x.tells(0, 0, 3), 15);
+        due("7 alone", x.tells(0, 0, 4), 1);
+        due("7", x.tells(0, 0, 5), 7);
+        due("by text 1", x.tells(0, 0, 6), 2);
     }
 
     private static void filmBounds() {
