@@ -316,7 +316,8 @@ public final class MosaicOfSights {
         if (n < 0 || n > MOST_DAYS) {
             return BAD;
         }
-        return filledIfDrawn(seed, n);
+        thinkDrawn(seed);
+        return filledBehind(n, NONE);
     }
 
     public long chance(int seed, int m, int k, int part) {
@@ -325,7 +326,8 @@ public final class MosaicOfSights {
         }
         int good = 0;
         for (int i = 0; i < m; i++) {
-            if (filledIfDrawn(seed + i, DAYS_OF_CHANCE) >= k) {
+            thinkDrawn(seed + i);
+            if (filledBehind(DAYS_OF_CHANCE, NONE) >= k) {
                 good++;
             }
         }
@@ -503,14 +505,14 @@ public final class MosaicOfSights {
         return thought.filledCells();
     }
 
-    private int filledIfDrawn(int seed, int n) {
+    /** A thought in which all CELLS WANT what is DRAWN by a SEED. */
+    private void thinkDrawn(int seed) {
         think();
         int z = seed;
         for (int cell = 0; cell < CELLS; cell++) {
             z = z * 1103515245 + 12345;
             thought.wish(cell, (z >>> 9) % COLOURS);
         }
-        return filledBehind(n, NONE);
     }
 
     /** The first item that tells otherwise than the DAYS that pass in thought. */
